@@ -237,7 +237,7 @@ public final class FormSheet {
         }
     }
 
-    /** An expression. */
+    /** An expression. Reading refuses what is deeper than BRACKETS_MOST, so to go over its parts never goes deep. */
     private static final class Part {
         final char kind;
         final long number;

@@ -93,6 +93,7 @@ public final class FormTest {
     private static void clearing() {
         FormSheet x = Due.closed(5, "a*", "b=#a", "!b");
         Due.same("rows", x.rows(3), 4);
+        Due.same("set", x.set(0, 0, 500), 1);
         Due.same("set", x.set(0, 2, 700), 1);
         x.clear();
         Due.same("items", x.count(0), 0);
@@ -178,6 +179,11 @@ public final class FormTest {
         Due.same("faults; a check is no value", x.count(4), 4);
         Due.same("set", x.set(0, 0, 100), 4);
         Due.same("faults", x.count(4), 0);
+        x.set(0, 0, 0);
+        x.clear();
+        Due.same("add", Due.add(x, "a"), 0);
+        Due.same("add", Due.add(x, "b=(1/0)"), 1);
+        Due.same("faults, open again", x.count(4), 0);
         for (int what : new int[] {-1, 5, 6, Integer.MAX_VALUE, Integer.MIN_VALUE}) {
             Due.same("count(" + what + ")", x.count(what), FormSheet.NONE);
         }

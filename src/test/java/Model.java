@@ -50,7 +50,10 @@ final class Model {
     private boolean closed = false;
     private int rows = 1;
     private final Map<Cell, Long> told = new HashMap<>();
+    // What has been asked since the latest change, so that asking all of it does not take too long.
     private final Map<Cell, Outcome> known = new HashMap<>();
+    private List<List<Integer>> knownPages = null;
+    private List<Cell> knownCells = null;
 
     Model(int height) {
         this.height = height < 4 ? 4 : height > 20 ? 20 : height;
@@ -105,15 +108,22 @@ final class Model {
             }
         }
         closed = true;
+        forget();
         return fields().size();
     }
 
     void clear() {
         items.clear();
         told.clear();
-        known.clear();
         closed = false;
         rows = 1;
+        forget();
+    }
+
+    private void forget() {
+        known.clear();
+        knownPages = null;
+        knownCells = null;
     }
 
     int rows(int n) {
@@ -121,7 +131,7 @@ final class Model {
             return -1;
         }
         rows = n;
-        known.clear();
+        forget();
         told.keySet().removeIf(cell -> repeats(items.get(cell.item())) && cell.row() >= n);
         return fields().size();
     }
@@ -133,7 +143,7 @@ final class Model {
             return -1;
         }
         told.put(cell, value);
-        known.clear();
+        forget();
         return (int) fields().stream().filter(field -> hangsOn(field).contains(cell)).count();
     }
 
@@ -159,7 +169,7 @@ final class Model {
     }
 
     int place(int item, int row) {
-        List<List<Integer>> pages = laidOut();
+        List<List<Integer>> pages = allPages();
         for (int page = 0; page < pages.size() && exists(new Cell(item, row)); page++) {
             int line = pages.get(page).indexOf(8 * item + row);
             if (line >= 0) {
@@ -170,11 +180,11 @@ final class Model {
     }
 
     int pages() {
-        return laidOut().size();
+        return allPages().size();
     }
 
     int line(int page, int line) {
-        List<List<Integer>> pages = laidOut();
+        List<List<Integer>> pages = allPages();
         boolean there = page >= 0 && page < pages.size() && line >= 0 && line < pages.get(page).size();
         return there ? pages.get(page).get(line) : -1;
     }
@@ -227,6 +237,11 @@ final class Model {
     }
 
     private List<Cell> cells() {
+        knownCells = knownCells == null ? listed() : knownCells;
+        return knownCells;
+    }
+
+    private List<Cell> listed() {
         List<Cell> cells = new ArrayList<>();
         for (int i = 0; i < items.size() && closed; i++) {
             for (int row = 0; row < (repeats(items.get(i)) ? rows : 1); row++) {
@@ -342,6 +357,11 @@ final class Model {
     }
 
     // Pages.
+
+    private List<List<Integer>> allPages() {
+        knownPages = knownPages == null ? laidOut() : knownPages;
+        return knownPages;
+    }
 
     /** The pages that have something on them, each the list of what stands at its lines. */
     private List<List<Integer>> laidOut() {

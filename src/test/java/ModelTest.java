@@ -2,10 +2,13 @@ import java.util.ArrayList;
 import java.util.List;
 import java.util.Random;
 
-/** All promises: runs of calls, made up from a fixed seed, are answered by the class as by the model. */
+/**
+ * All promises: runs of calls, made up from a fixed seed, are answered by the class as by the model. The runs are longer
+ * than the 512 calls that the document speaks of, as this program does not wear out.
+ */
 public final class ModelTest {
     private static final long LIMIT = 1_000_000_000_000_000L;
-    private static final int RUNS = 4000;
+    private static final int RUNS = 2000;
     private static final String[] NAMES = {"a", "b", "c", "d", "e", "f", "g", "h", "aa", "ab", "ba", "z", "zz"};
     private static final int[] ODD = {-2, -1, 4, 5, 15, 16, 17, 63, 64, 1 << 28, 1 << 30, Integer.MAX_VALUE,
         Integer.MIN_VALUE};

@@ -216,6 +216,18 @@ public final class ValuesTest {
             Due.same("fault " + at[0] + " " + at[1], x.fault(at[0], at[1]), FormSheet.NONE);
         }
         Due.same("sum", x.get(8, 0), 2000);
+
+        // Named fields may stand behind the items that name them.
+        FormSheet y = Due.closed(9, "!(d=6)", "d=(c+b)", "c=(b+b)", "s=#q", "q*=(n+d)", "b=(a+a)", "n*", "a");
+        Due.same("set", y.set(7, 0, 100), 5);
+        Due.field(y, 1, 0, 600);
+        Due.field(y, 2, 0, 400);
+        Due.field(y, 3, 0, 600);
+        Due.same("its check", y.fault(0, 0), 0);
+        Due.same("rows", y.rows(2), 9);
+        Due.field(y, 3, 0, 1200);
+        Due.same("set", y.set(6, 1, 100), 2);
+        Due.field(y, 3, 0, 1300);
     }
 
     private static void asking() {
