@@ -3,12 +3,13 @@ import java.util.List;
 import java.util.Random;
 
 /**
- * All promises: runs of calls, made up from a fixed seed, are answered by the class as by the model. The runs are longer
- * than the 512 calls that the document speaks of, as this program does not wear out.
+ * All promises: runs of calls, made up from a fixed seed, are answered by the class as by the model. Some are 512 calls
+ * in any order; the others, which ask everything again and again, are longer, as this program does not wear out.
  */
 public final class ModelTest {
     private static final long LIMIT = 1_000_000_000_000_000L;
     private static final int RUNS = 2000;
+    private static final int CALLS = 512;
     private static final String[] NAMES = {"a", "b", "c", "d", "e", "f", "g", "h", "aa", "ab", "ba", "z", "zz"};
     private static final int[] ODD = {-2, -1, 4, 5, 15, 16, 17, 63, 64, 1 << 28, 1 << 30, Integer.MAX_VALUE,
         Integer.MIN_VALUE};
@@ -17,6 +18,8 @@ public final class ModelTest {
     private final FormSheet sheet;
     private final Model model;
     private final String run;
+    /** What is left of the item that is being written, when calls are in any order. */
+    private String unwritten = "";
 
     private ModelTest(int seed) {
         random = new Random(seed);
@@ -29,6 +32,7 @@ public final class ModelTest {
     public static void main(String[] args) {
         for (int seed = 0; seed < RUNS; seed++) {
             new ModelTest(seed).play();
+            new ModelTest(-1 - seed).playInAnyOrder();
         }
         Due.end();
     }
@@ -52,6 +56,62 @@ public final class ModelTest {
             sheet.clear();
             model.clear();
             compareAll();
+        }
+    }
+
+    private void playInAnyOrder() {
+        for (int call = 1; call <= CALLS; call++) {
+            boolean closed = model.count(3) == 1;
+            int kind = random.nextInt(100);
+            if (kind < 3) {
+                closeOrClear(closed);
+            } else if (kind < (closed ? 8 : 70)) {
+                writeOrAdd();
+            } else if (kind < (closed ? 12 : 72)) {
+                changeRows();
+            } else if (kind < (closed ? 45 : 75)) {
+                setOne();
+            } else {
+                ask();
+            }
+        }
+    }
+
+    private void closeOrClear(boolean closed) {
+        if (random.nextInt(closed ? 2 : 8) == 0) {
+            sheet.clear();
+            model.clear();
+        } else {
+            same("close", Due.close(sheet), model.close());
+        }
+    }
+
+    private void writeOrAdd() {
+        if (unwritten.isEmpty() || random.nextInt(40) == 0) {
+            addBoth("of what was written");
+            // Few names, so that those in expressions are often those of fields.
+            String head = List.of("a", "ab", "n*", "nm*", "!", "!*", "\"").get(random.nextInt(7));
+            unwritten = itemOf(head, List.of("a", "ab"), List.of("n", "nm"));
+        } else {
+            int length = Math.min(8, unwritten.length());
+            writeBoth(Due.word(unwritten.substring(0, length)));
+            unwritten = unwritten.substring(length);
+        }
+    }
+
+    private void ask() {
+        int i = random.nextInt(10) == 0 ? odd() : random.nextInt(8);
+        int k = random.nextInt(10) == 0 ? odd() : random.nextInt(3);
+        String at = "(" + i + ", " + k + ")";
+        switch (random.nextInt(8)) {
+            case 0 -> same("position", sheet.position(), model.position());
+            case 1 -> same("get" + at, sheet.get(i, k), model.get(i, k));
+            case 2 -> same("fault" + at, sheet.fault(i, k), model.fault(i, k));
+            case 3 -> same("message(" + (i - 1) + ")", sheet.message(i - 1), model.message(i - 1));
+            case 4 -> same("place" + at, sheet.place(i, k), model.place(i, k));
+            case 5 -> same("pages", sheet.pages(), model.pages());
+            case 6 -> same("line(" + k + ", " + i + ")", sheet.line(k, i), model.line(k, i));
+            default -> same("count(" + i + ")", sheet.count(i), model.count(i));
         }
     }
 
@@ -167,8 +227,12 @@ public final class ModelTest {
                 writeBoth(random.nextBoolean() ? random.nextLong() : (long) (128 + random.nextInt(128)) << 24);
             }
         }
-        same("add " + text, Due.add(sheet), model.add());
+        addBoth(text);
         same("position " + text, sheet.position(), model.position());
+    }
+
+    private void addBoth(String text) {
+        same("add " + text, Due.add(sheet), model.add());
     }
 
     private void writeBoth(long w) {
@@ -186,21 +250,29 @@ public final class ModelTest {
 
     private void change() {
         if (random.nextInt(4) == 0) {
-            int n = random.nextInt(8) == 0 ? odd() : random.nextInt(5);
-            same("rows(" + n + ")", sheet.rows(n), model.rows(n));
+            changeRows();
             return;
         }
         // Until a told field is met, or often enough.
-        for (int tries = 0; tries < 12; tries++) {
-            int item = random.nextInt(40) == 0 ? odd() : random.nextInt(16);
-            int row = random.nextInt(40) == 0 ? odd() : random.nextInt(4);
-            long value = value();
-            int anew = model.set(item, row, value);
-            same("set(" + item + ", " + row + ", " + value + ")", sheet.set(item, row, value), anew);
-            if (anew >= 0) {
-                return;
-            }
+        boolean told = false;
+        for (int tries = 0; tries < 12 && !told; tries++) {
+            told = setOne();
         }
+    }
+
+    private void changeRows() {
+        int n = random.nextInt(8) == 0 ? odd() : random.nextInt(5);
+        same("rows(" + n + ")", sheet.rows(n), model.rows(n));
+    }
+
+    /** Whether there is such a told field. */
+    private boolean setOne() {
+        int item = random.nextInt(40) == 0 ? odd() : random.nextInt(16);
+        int row = random.nextInt(40) == 0 ? odd() : random.nextInt(4);
+        long value = value();
+        int anew = model.set(item, row, value);
+        same("set(" + item + ", " + row + ", " + value + ")", sheet.set(item, row, value), anew);
+        return anew >= 0;
     }
 
     private int odd() {
